@@ -1,0 +1,87 @@
+/** Small objects that several tests begin with. */
+final class School {
+    static final int PLAIN = 0, CHOICE = 1, STEPS = 2, TRIAL = 3;
+
+    private School() {
+    }
+
+    /** Question 0 PLAIN of 5, 1 CHOICE of 3 with options 1 and 2, 2 STEPS of 4, 3 TRIAL of 2, 4 PLAIN of 4. */
+    static ExamScales questions() {
+        ExamScales x = new ExamScales();
+        x.question(PLAIN, 5, 0);
+        x.question(CHOICE, 3, 6);
+        x.question(STEPS, 4, 0);
+        x.question(TRIAL, 2, 0);
+        x.question(PLAIN, 4, 0);
+        return x;
+    }
+
+    /** Paper 0: questions 0 1 3 4; paper 1: questions 2 0 1. */
+    static ExamScales papers() {
+        ExamScales x = questions();
+        x.paper();
+        for (int q : new int[] {0, 1, 3, 4}) {
+            x.put(0, q);
+        }
+        x.paper();
+        for (int q : new int[] {2, 0, 1}) {
+            x.put(1, q);
+        }
+        return x;
+    }
+
+    /** Pupils 0, 1, 2 of paper 0 at places 0, 1, 1; pupils 3, 4 of paper 1 at places 2, 0; all GAPS. */
+    static ExamScales pupils() {
+        ExamScales x = papers();
+        x.pupil(0, 0);
+        x.pupil(0, 1);
+        x.pupil(0, 1);
+        x.pupil(1, 2);
+        x.pupil(1, 0);
+        return x;
+    }
+
+    /** With answers: the TOTALS are 8 2 8 and 6 5; the SHARED SUMS 7 2 8 and 3 4. */
+    static ExamScales answered() {
+        ExamScales x = pupils();
+        x.row(0, tape(4, 2, 255, 1));
+        x.row(1, tape(2, 0));
+        x.row(2, tape(5, 1, 2));
+        x.row(3, tape(7, 3));
+        x.row(4, tape(5, 1, 1));
+        return x;
+    }
+
+    /** The answers given and two judges' words: the CUT of paper 0 is 3 + 4 by 2, and 2. */
+    static ExamScales judged() {
+        ExamScales x = answered();
+        x.judge(0, 0, 0, 3);
+        x.judge(1, 0, 0, 4);
+        x.judge(0, 0, 4, 2);
+        return x;
+    }
+
+    /** A paper of PLAIN questions of 10, all at once. */
+    static ExamScales plain(int questions, int papers) {
+        ExamScales x = new ExamScales();
+        for (int q = 0; q < questions; q++) {
+            x.question(PLAIN, 10, 0);
+        }
+        for (int paper = 0; paper < papers; paper++) {
+            x.paper();
+            for (int q = 0; q < questions; q++) {
+                x.put(paper, q);
+            }
+        }
+        return x;
+    }
+
+    /** Bytes from the highest one on; what is not named is 254, the end. */
+    static long tape(int... bytes) {
+        long w = 0;
+        for (int i = 0; i < 8; i++) {
+            w = w << 8 | (i < bytes.length ? bytes[i] : 254);
+        }
+        return w;
+    }
+}
