@@ -400,7 +400,7 @@ public final class ExamScales {
         int n = gatherSums(paper, countingSet());
         int found = 0;
         for (int i = 0; i < n; i++) {
-            if (Math.abs((long) values[i] * CUT_PARTS - cut) <= farthest) {
+            if (Math.abs(values[i] * CUT_PARTS - cut) <= farthest) {
                 found++;
             }
         }
@@ -638,7 +638,7 @@ public final class ExamScales {
         long sum = sumOfValues(n);
         long away = 0;
         for (int i = 0; i < n; i++) {
-            away += Math.abs((long) n * values[i] - sum);
+            away += Math.abs(n * values[i] - sum);
         }
         return away;
     }
