@@ -13,7 +13,7 @@ public final class ExamScales {
     private static final int QUESTIONS = 30, PAPERS = 8, SPOTS = 12, PUPILS = 60;
     private static final int PLACES = 4, JUDGES = 8;
     private static final int GREATEST_MOST = 10, GREATEST_KEY = 255, GREATEST_OPTION = 7;
-    private static final int GREATEST_TOTAL = 120, GREATEST_BAR = 100, PAIR_BASE = 64;
+    private static final int GREATEST_TOTAL = 120, HUNDREDTHS = 100, PAIR_BASE = 64;
 
     /** As NONE, so that what an ANSWER or a JUDGE's word was can be told as it is kept. */
     private static final int GAP = NONE, UNTOLD = NONE;
@@ -215,8 +215,8 @@ public final class ExamScales {
         }
         long n = 0, marks = 0;
         for (int pupil = 0; pupil < pupilCount; pupil++) {
-            int spot = spotFor(pupil, q);
-            if (spot != NONE && hasComeTo(pupil, spot)) {
+            int spot = spotComeTo(pupil, q);
+            if (spot != NONE) {
                 n++;
                 marks += markAt(pupil, spot);
             }
@@ -231,8 +231,8 @@ public final class ExamScales {
         int others = countingSet() & ~(1 << q);
         long n = 0, marks = 0, rests = 0, products = 0;
         for (int pupil = 0; pupil < pupilCount; pupil++) {
-            int spot = spotFor(pupil, q);
-            if (spot != NONE && hasComeTo(pupil, spot)) {
+            int spot = spotComeTo(pupil, q);
+            if (spot != NONE) {
                 long mark = markAt(pupil, spot);
                 long rest = sumOver(pupil, others);
                 n++;
@@ -480,7 +480,7 @@ public final class ExamScales {
     }
 
     private static boolean isBar(int bar) {
-        return bar >= 1 && bar <= GREATEST_BAR;
+        return bar >= 1 && bar <= HUNDREDTHS;
     }
 
     private static boolean isTotal(int t) {
@@ -575,6 +575,11 @@ public final class ExamScales {
         return false;
     }
 
+    private int spotComeTo(int pupil, int q) {
+        int spot = spotFor(pupil, q);
+        return spot != NONE && hasComeTo(pupil, spot) ? spot : NONE;
+    }
+
     private int sumOver(int pupil, int set) {
         int paper = pupilPapers[pupil];
         int sum = 0;
@@ -592,8 +597,8 @@ public final class ExamScales {
         Arrays.fill(cameAt, 0);
         Arrays.fill(fullAt, 0);
         for (int pupil = 0; pupil < pupilCount; pupil++) {
-            int spot = spotFor(pupil, q);
-            if (spot != NONE && hasComeTo(pupil, spot)) {
+            int spot = spotComeTo(pupil, q);
+            if (spot != NONE) {
                 cameAt[pupilPlaces[pupil]]++;
                 if (markAt(pupil, spot) == mosts[q]) {
                     fullAt[pupilPlaces[pupil]]++;
@@ -610,7 +615,7 @@ public final class ExamScales {
             fullOthers += fullAt[i];
         }
         return here > 0 && others > 0
-                && GREATEST_BAR * (fullHere * others - fullOthers * here) > bar * here * others;
+                && HUNDREDTHS * (fullHere * others - fullOthers * here) > bar * here * others;
     }
 
     // ---- rows of values
