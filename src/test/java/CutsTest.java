@@ -52,6 +52,8 @@ public final class CutsTest {
         for (int v : new int[] {-2, 6, MIN, MAX}) {
             due.refused("25: v " + v, School::judged, x -> x.judge(0, 0, 0, v), BAD);
         }
+        due.refused("25: nothing any more of what was not told", School::judged, x -> x.judge(2, 0, 0, -1), NONE);
+        due.refused("25: neither judge nor paper nor question", School::judged, x -> x.judge(8, 2, 5, -2), NONE);
         due.refused("25: above MOST of STEPS", School::judged, x -> x.judge(0, 1, 2, 5), BAD);
         due.refused("25: above MOST of a CHOICE", School::judged, x -> x.judge(0, 0, 1, 4), BAD);
     }
@@ -78,6 +80,7 @@ public final class CutsTest {
         cutIs("only 0 was told", x, 1, 0, 1);
         for (int paper : NO_PAPERS) {
             due.refused("26: no paper " + paper, School::judged, y -> y.cut(paper, 0), NO);
+            due.refused("26: no paper " + paper + ", below", School::judged, y -> y.cut(paper, 1), NO);
         }
         for (int what : new int[] {-1, 2, MIN, MAX}) {
             due.refused("26: what " + what, School::judged, y -> y.cut(0, what), NO);
@@ -236,7 +239,10 @@ public final class CutsTest {
         }
         for (int m : new int[] {0, -1, MIN}) {
             due.refused("30: m " + m, CutsTest::somePairs, x -> x.pair(0, m, 0), BAD);
-            due.refused("30: NONE ahead of BAD", CutsTest::somePairs, x -> x.pair(0, m, -1), NONE);
+            due.refused("30: m " + m + ", behind the last two", CutsTest::somePairs, x -> x.pair(0, m, 3), BAD);
+            for (int i : new int[] {-1, -2, MIN}) {
+                due.refused("30: NONE ahead of BAD, m " + m + ", " + i, CutsTest::somePairs, x -> x.pair(0, m, i), NONE);
+            }
         }
     }
 

@@ -20,10 +20,13 @@ final class Due {
 
     /** A refusal: its answer, and that the object is afterwards as one that was never asked. */
     void refused(String what, Supplier<ExamScales> maker, ToLongFunction<ExamScales> call, long want) {
-        ExamScales x = maker.get();
-        is(what, call.applyAsLong(x), want);
-        String after = State.of(x);
-        String untouched = State.of(maker.get());
+        is(what, call.applyAsLong(maker.get()), want);
+        String untouched = State.of(maker);
+        String after = State.of(() -> {
+            ExamScales x = maker.get();
+            call.applyAsLong(x);
+            return x;
+        });
         asked++;
         if (!after.equals(untouched)) {
             wrong++;

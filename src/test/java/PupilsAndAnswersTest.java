@@ -11,6 +11,8 @@ public final class PupilsAndAnswersTest {
         gap();
         row();
         rowEnds();
+        rowAtTheEndsOfLong();
+        rowOfEachLength();
         mark();
         come();
         total();
@@ -76,6 +78,7 @@ public final class PupilsAndAnswersTest {
     private static void answerRefused() {
         for (int pupil : new int[] {-1, 5, 60, MIN, MAX}) {
             due.refused("9: no pupil " + pupil, School::judged, x -> x.answer(pupil, 0, 1), NONE);
+            due.refused("9: no pupil ahead of BAD", School::judged, x -> x.answer(pupil, 0, 6), NONE);
         }
         for (int q : new int[] {-1, 2, 5, 30, 32, MIN, MAX}) {
             due.refused("9: not in its paper " + q, School::judged, x -> x.answer(0, q, 1), NONE);
@@ -100,6 +103,8 @@ public final class PupilsAndAnswersTest {
         due.is("10: steps", x.gap(4, 2), 5);
         due.is("10: one at first", x.gap(1, 4), NONE);
         due.is("10: ANSWERS left", x.count(3), 10);
+        due.refused("10: a GAP stays one", School::answered, y -> y.gap(1, 4), NONE);
+        due.refused("10: a GAP among ANSWERS", School::answered, y -> y.gap(0, 3), NONE);
         for (int pupil : new int[] {-1, 5, 60, MIN, MAX}) {
             due.refused("10: no pupil " + pupil, School::answered, y -> y.gap(pupil, 0), NONE);
         }
@@ -163,6 +168,70 @@ public final class PupilsAndAnswersTest {
         due.is("11: 253", steps.gap(0, 0), 253);
         due.is("11: 255", steps.gap(0, 1), NONE);
         due.is("11: 254", steps.gap(0, 2), 7);
+    }
+
+    /** 128 and seven zeroes; 127 and seven GAPS; 0 and 1; all GAPS. */
+    private static void rowAtTheEndsOfLong() {
+        long[] tapes = {Long.MIN_VALUE, Long.MAX_VALUE, 0L, 1L, -1L, -2L};
+        int[] taken = {8, 8, 8, 8, 8, 7};
+        int[] first = {128, 127, 0, 0, NONE, NONE}, last = {0, NONE, 0, 1, NONE, 3};
+        for (int i = 0; i < tapes.length; i++) {
+            ExamScales x = eightSteps();
+            due.is("11: taken of " + tapes[i], x.row(0, tapes[i]), taken[i]);
+            due.is("11: the first one of " + tapes[i], x.gap(0, 0), first[i]);
+            due.is("11: the last one of " + tapes[i], x.gap(0, 7), last[i]);
+            due.is("11: behind the last one of " + tapes[i], x.gap(0, 8), 3);
+        }
+        for (int pupil : new int[] {-1, 1, 60, MIN, MAX}) {
+            for (long w : tapes) {
+                due.refused("11: no pupil " + pupil + ", " + w, PupilsAndAnswersTest::eightSteps, x -> x.row(pupil, w), NONE);
+            }
+        }
+        ExamScales plain = School.answered();
+        due.is("11: 128 is no PLAIN answer", plain.row(0, Long.MIN_VALUE), 0);
+        due.is("11: nor is 127", plain.row(0, Long.MAX_VALUE), 0);
+        due.is("11: the ANSWER stays", plain.gap(0, 0), 4);
+    }
+
+    /** Nine STEPS of 8, to all of which pupil 0 answers 3. */
+    private static ExamScales eightSteps() {
+        ExamScales x = new ExamScales();
+        x.paper();
+        for (int q = 0; q < 9; q++) {
+            x.question(School.STEPS, 8, 0);
+            x.put(0, q);
+        }
+        x.pupil(0, 0);
+        for (int q = 0; q < 9; q++) {
+            x.answer(0, q, 3);
+        }
+        return x;
+    }
+
+    /** A paper of 0 to 12 questions; the row ends by 254, or by no such answer, at each of its places. */
+    private static void rowOfEachLength() {
+        for (int questions = 0; questions <= 12; questions++) {
+            for (int end = 0; end <= 8; end++) {
+                for (int by : new int[] {254, 253, 11}) {
+                    ExamScales x = School.plain(questions, 1);
+                    x.pupil(0, 0);
+                    int[] bytes = {2, 255, 2, 2, 10, 0, 255, 2};
+                    if (end < 8) {
+                        bytes[end] = by;
+                    }
+                    int taken = Math.min(questions, end);
+                    String name = "11: " + questions + " questions, " + by + " at " + end;
+                    for (int q = 0; q < questions; q++) {
+                        x.answer(0, q, 7);
+                    }
+                    due.is(name, x.row(0, School.tape(bytes)), taken);
+                    for (int q = 0; q < questions; q++) {
+                        int due1 = q >= taken ? 7 : bytes[q] == 255 ? NONE : bytes[q];
+                        due.is(name + ", question " + q, x.gap(0, q), due1);
+                    }
+                }
+            }
+        }
     }
 
     private static void mark() {

@@ -1,3 +1,7 @@
+import java.util.List;
+import java.util.function.ToIntFunction;
+import java.util.function.ToLongFunction;
+
 /** Promises 1 to 7. */
 public final class QuestionsAndPapersTest {
     private static final int NONE = ExamScales.NONE, BAD = ExamScales.BAD;
@@ -7,6 +11,7 @@ public final class QuestionsAndPapersTest {
 
     public static void main(String[] args) {
         newObject();
+        nothingIsThere();
         question();
         questionRefused();
         key();
@@ -23,15 +28,31 @@ public final class QuestionsAndPapersTest {
         for (int what = 0; what <= 5; what++) {
             due.is("1: count(" + what + ") of a new object", x.count(what), 0);
         }
-        due.is("1: no question", x.sharp(0), ExamScales.NO);
-        due.is("1: no paper", x.at(0, 0), NONE);
-        due.is("1: no pupil", x.total(0), NONE);
-        due.is("1: no leak", x.leak(1, 0), NONE);
         ExamScales other = new ExamScales();
         x.question(0, 1, 0);
         x.paper();
         due.is("1: objects share no questions", other.count(0), 0);
         due.is("1: objects share no papers", other.count(1), 0);
+    }
+
+    /** "Nothing is there.": no call finds a question, a paper, a pupil, a leak or two that are alike. */
+    private static void nothingIsThere() {
+        List<ToIntFunction<ExamScales>> none = List.of(x -> x.key(0, 1), x -> x.strike(0, 1), x -> x.put(0, 0),
+                x -> x.at(0, 0), x -> x.pupil(0, 0), x -> x.answer(0, 0, 0), x -> x.gap(0, 0), x -> x.row(0, 0L),
+                x -> x.mark(0, 0), x -> x.come(0, 0), x -> x.total(0), x -> x.leaky(0, 0, 1), x -> x.leak(1, 0),
+                x -> x.shared(0, 1), x -> x.sum(0, 0), x -> x.rank(0, 0), x -> x.like(0, 1, 0),
+                x -> x.judge(0, 0, 0, 0), x -> x.passes(0), x -> x.border(0, 0), x -> x.alike(0, 1),
+                x -> x.pair(0, 1, 0));
+        for (int i = 0; i < none.size(); i++) {
+            due.refused("1: nothing for call " + i, ExamScales::new, none.get(i)::applyAsInt, NONE);
+        }
+        List<ToLongFunction<ExamScales>> no = List.of(x -> x.easy(0, 0), x -> x.sharp(0), x -> x.group(0, 0, 0),
+                x -> x.scale(0, 1, 0, 0), x -> x.cut(0, 0));
+        for (int i = 0; i < no.size(); i++) {
+            due.refused("1: no number for call " + i, ExamScales::new, no.get(i), ExamScales.NO);
+        }
+        due.is("1: the first question", new ExamScales().question(0, 1, 0), 0);
+        due.is("1: the first paper", new ExamScales().paper(), 0);
     }
 
     private static void question() {
@@ -67,8 +88,11 @@ public final class QuestionsAndPapersTest {
             }
         }
         due.refused("2: the 31st", () -> School.plain(30, 0), x -> x.question(0, 3, 0), FULL);
-        due.refused("2: BAD ahead of FULL", () -> School.plain(30, 0), x -> x.question(0, 11, 0), BAD);
-        due.refused("2: BAD key ahead of FULL", () -> School.plain(30, 0), x -> x.question(1, 3, 0), BAD);
+        int[][] bad = {{4, 3, 0}, {-1, 3, 0}, {0, 11, 0}, {0, 0, 0}, {1, 3, 0}, {1, 3, 256}, {0, 3, 1}, {3, 3, 1}};
+        for (int[] b : bad) {
+            due.refused("2: BAD ahead of FULL, " + b[0] + " " + b[1] + " " + b[2], () -> School.plain(30, 0),
+                    x -> x.question(b[0], b[1], b[2]), BAD);
+        }
     }
 
     private static void key() {
@@ -117,7 +141,14 @@ public final class QuestionsAndPapersTest {
         }
         for (int is : new int[] {-1, 2, MIN, MAX}) {
             due.refused("4: is " + is, School::judged, y -> y.strike(0, is), BAD);
+            due.refused("4: is " + is + ", of a STRUCK one", QuestionsAndPapersTest::struck, y -> y.strike(0, is), BAD);
         }
+    }
+
+    private static ExamScales struck() {
+        ExamScales x = School.judged();
+        x.strike(0, 1);
+        return x;
     }
 
     private static void paper() {
@@ -159,7 +190,20 @@ public final class QuestionsAndPapersTest {
         due.refused("6: there is a pupil", School::pupils, x -> x.put(0, 2), STATE);
         due.refused("6: the 13th", QuestionsAndPapersTest::fullPaper, x -> x.put(0, 12), FULL);
         due.refused("6: STATE ahead of FULL", QuestionsAndPapersTest::fullPaper, x -> x.put(0, 3), STATE);
+        for (int q : new int[] {-1, 13, 30, MIN, MAX}) {
+            due.refused("6: NONE ahead of FULL, " + q, QuestionsAndPapersTest::fullPaper, x -> x.put(0, q), NONE);
+        }
+        due.refused("6: it is in it, and there is a pupil", School::pupils, x -> x.put(0, 0), STATE);
+        due.refused("6: a pupil of a paper without questions", QuestionsAndPapersTest::pupilOfNothing,
+                x -> x.put(0, 0), STATE);
         due.refused("6: a pupil ahead of FULL", () -> withPupil(fullPaper()), x -> x.put(0, 12), STATE);
+    }
+
+    private static ExamScales pupilOfNothing() {
+        ExamScales x = School.plain(1, 0);
+        x.paper();
+        x.pupil(0, 0);
+        return x;
     }
 
     private static ExamScales fullPaper() {
@@ -182,6 +226,13 @@ public final class QuestionsAndPapersTest {
         for (int i : new int[] {-1, 4, 12, MIN, MAX}) {
             due.refused("7: no place " + i, School::papers, y -> y.at(0, i), NONE);
         }
+        ExamScales empty = new ExamScales();
+        empty.paper();
+        due.is("7: of a paper without questions", empty.at(0, 0), NONE);
+        for (int i : new int[] {-1, 12, 13, MIN, MAX}) {
+            due.refused("7: no place " + i + " of a full one", QuestionsAndPapersTest::fullPaper, y -> y.at(0, i), NONE);
+        }
+        due.is("7: the last place of a full one", fullPaper().at(0, 11), 11);
         due.refused("7: behind the shorter one", School::papers, y -> y.at(1, 3), NONE);
         for (int paper : new int[] {-1, 2, 8, MIN, MAX}) {
             due.refused("7: no paper " + paper, School::papers, y -> y.at(paper, 0), NONE);

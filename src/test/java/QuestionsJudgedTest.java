@@ -40,6 +40,7 @@ public final class QuestionsJudgedTest {
         easyIs("in no paper", School.questions(), 1, 0, 1);
         for (int q : new int[] {-1, 5, 30, 32, MIN, MAX}) {
             due.refused("15: no question " + q, School::answered, y -> y.easy(q, 0), NO);
+            due.refused("15: no question " + q + ", below", School::answered, y -> y.easy(q, 1), NO);
         }
         for (int what : new int[] {-1, 2, MIN, MAX}) {
             due.refused("15: what " + what, School::answered, y -> y.easy(0, what), NO);
@@ -151,6 +152,7 @@ public final class QuestionsJudgedTest {
         for (int place : new int[] {-1, 4, MIN, MAX}) {
             due.refused("17: no place " + place, maker, x -> x.leaky(0, place, 24), NONE);
             due.refused("17: no place ahead of BAD", maker, x -> x.leaky(0, place, 101), NONE);
+            due.refused("17: neither question nor place nor bar", maker, x -> x.leaky(2, place, 0), NONE);
         }
         for (int bar : new int[] {0, -1, 101, MIN, MAX}) {
             due.refused("17: bar " + bar, maker, x -> x.leaky(0, 2, bar), BAD);
@@ -192,7 +194,10 @@ public final class QuestionsJudgedTest {
         }
         for (int bar : new int[] {0, -1, 101, MIN, MAX}) {
             due.refused("18: bar " + bar, maker, x -> x.leak(bar, 0), BAD);
-            due.refused("18: NONE ahead of BAD", maker, x -> x.leak(bar, -1), NONE);
+            due.refused("18: bar " + bar + ", behind the last leak", maker, x -> x.leak(bar, 3), BAD);
+            for (int i : new int[] {-1, -2, MIN}) {
+                due.refused("18: NONE ahead of BAD, bar " + bar + ", " + i, maker, x -> x.leak(bar, i), NONE);
+            }
         }
     }
 }

@@ -59,6 +59,7 @@ public final class ScalesTest {
         }
         for (int paper : NO_PAPERS) {
             due.refused("20: no paper " + paper, School::answered, y -> y.sum(0, paper), NONE);
+            due.refused("20: neither pupil nor paper " + paper, School::answered, y -> y.sum(5, paper), NONE);
         }
         due.refused("20: its own", School::answered, y -> y.sum(0, 0), BAD);
         due.refused("20: its own, paper 1", School::answered, y -> y.sum(4, 1), BAD);
@@ -167,6 +168,7 @@ public final class ScalesTest {
         for (int paper : NO_PAPERS) {
             due.refused("22: no paper " + paper, maker, x -> x.scale(paper, 0, 4, 0), NO);
             due.refused("22: no other paper " + paper, maker, x -> x.scale(0, paper, 4, 0), NO);
+            due.refused("22: none of both " + paper, maker, x -> x.scale(paper, paper, 4, 0), NO);
         }
         due.refused("22: from a paper to itself", maker, x -> x.scale(0, 0, 4, 0), NO);
         for (int t : new int[] {-1, 121, MIN, MAX}) {
@@ -194,7 +196,9 @@ public final class ScalesTest {
         due.is("23: all have 0", School.pupils().rank(0, 0), 3);
         due.refused("23: an empty GROUP", School::papers, y -> y.rank(0, 1), NONE);
         for (int paper : NO_PAPERS) {
-            due.refused("23: no paper " + paper, School::answered, y -> y.rank(paper, 1), NONE);
+            for (int v : new int[] {MIN, -1, 1, MAX}) {
+                due.refused("23: no paper " + paper + ", v " + v, School::answered, y -> y.rank(paper, v), NONE);
+            }
         }
     }
 
@@ -218,6 +222,7 @@ public final class ScalesTest {
         for (int paper : NO_PAPERS) {
             due.refused("24: no paper " + paper, School::answered, x -> x.like(paper, 0, 1), NONE);
             due.refused("24: no other paper " + paper, School::answered, x -> x.like(0, paper, 1), NONE);
+            due.refused("24: none of both " + paper, School::answered, x -> x.like(paper, paper, 1), NONE);
         }
         for (int t : new int[] {-1, 121, MIN, MAX}) {
             due.refused("24: t " + t, School::answered, x -> x.like(0, 1, t), NONE);

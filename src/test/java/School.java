@@ -61,7 +61,22 @@ final class School {
         return x;
     }
 
-    /** A paper of PLAIN questions of 10, all at once. */
+    /** One question, in paper 0, which pupil 0 has. */
+    static ExamScales one(int kind, int most, int key) {
+        ExamScales x = new ExamScales();
+        x.question(kind, most, key);
+        x.paper();
+        x.put(0, 0);
+        x.pupil(0, 0);
+        return x;
+    }
+
+    /** The least KEY of a CHOICE, and what the others have for it. */
+    static int keyFor(int kind) {
+        return kind == CHOICE ? 1 : 0;
+    }
+
+    /** PLAIN questions of 10, all of them in each paper. */
     static ExamScales plain(int questions, int papers) {
         ExamScales x = new ExamScales();
         for (int q = 0; q < questions; q++) {
