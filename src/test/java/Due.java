@@ -20,8 +20,12 @@ final class Due {
 
     /** A refusal: its answer, and that the object is afterwards as one that was never asked. */
     void refused(String what, Supplier<ExamScales> maker, ToLongFunction<ExamScales> call, long want) {
+        refused(what, maker, State.of(maker), call, want);
+    }
+
+    /** The same, for a maker whose objects' state was read already. */
+    void refused(String what, Supplier<ExamScales> maker, String untouched, ToLongFunction<ExamScales> call, long want) {
         is(what, call.applyAsLong(maker.get()), want);
-        String untouched = State.of(maker);
         String after = State.of(() -> {
             ExamScales x = maker.get();
             call.applyAsLong(x);

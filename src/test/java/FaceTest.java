@@ -31,7 +31,9 @@ public final class FaceTest {
         constants();
         methods();
         fields();
-        source(Files.readString(Path.of("src/main/java/ExamScales.java")));
+        String text = Files.readString(Path.of("src/main/java/ExamScales.java"));
+        source(text);
+        lengths(text);
         due.end();
     }
 
@@ -72,8 +74,10 @@ public final class FaceTest {
 
     private static void fields() {
         List<String> seen = new ArrayList<>();
+        int kept = 0;
         for (Field f : ExamScales.class.getDeclaredFields()) {
             int modifiers = f.getModifiers();
+            kept += Modifier.isStatic(modifiers) ? 0 : 1;
             due.isTrue(f + " is final if it is static", !Modifier.isStatic(modifiers) || Modifier.isFinal(modifiers));
             if (!Modifier.isPrivate(modifiers)) {
                 seen.add(f.getType() + " " + f.getName());
@@ -81,6 +85,20 @@ public final class FaceTest {
             }
         }
         same("fields", seen, FIELDS);
+        due.isTrue(kept + " fields are some twenty", kept <= 20);
+    }
+
+    private static void lengths(String text) {
+        int begun = 0, line = 0;
+        for (String l : text.split("\n")) {
+            line++;
+            if (l.matches("    (public|private) [^=;]*\\{")) {
+                begun = line;
+            } else if (l.equals("    }")) {
+                due.isTrue("the method at line " + begun + " is short", line - begun < 60);
+            }
+        }
+        due.isTrue("methods were seen", begun > 0);
     }
 
     private static void same(String what, List<String> seen, List<String> wanted) {

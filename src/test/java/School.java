@@ -91,6 +91,38 @@ final class School {
         return x;
     }
 
+    /**
+     * As much of all as there can be. Papers 0 .. 2 have questions 0 .. 29 among them, paper 7 as many as
+     * it can, but no pupil; the last pupil is the only one at place 3, and the only one right at question 29.
+     */
+    static ExamScales full() {
+        ExamScales x = new ExamScales();
+        for (int q = 0; q < 30; q++) {
+            x.question(q % 4, 10 - q % 3, q % 4 == CHOICE ? 2 : 0);
+        }
+        for (int paper = 0; paper < 8; paper++) {
+            x.paper();
+        }
+        for (int i = 0; i < 12; i++) {
+            x.put(0, i);
+            x.put(1, 11 + i);
+            x.put(7, 2 * i);
+        }
+        for (int q = 29; q > 21; q--) {
+            x.put(2, q);
+        }
+        for (int pupil = 0; pupil < 59; pupil++) {
+            x.pupil(pupil % 3, pupil % 2);
+            x.row(pupil, 0x0305020304030204L + pupil % 2);
+        }
+        x.pupil(2, 3);
+        x.row(59, tape(1, 3, 2, 7, 1, 3));
+        x.judge(7, 2, 29, 3);
+        x.judge(0, 7, 22, 1);
+        x.strike(28, 1);
+        return x;
+    }
+
     /** Bytes from the highest one on; what is not named is 254, the end. */
     static long tape(int... bytes) {
         long w = 0;

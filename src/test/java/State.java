@@ -102,12 +102,9 @@ final class State {
 
     /** What would be made next in a paper, and that nothing lies in wait there. */
     private void comesNext(ExamScales x, int paper) {
-        text.append("next in ").append(paper).append(": question ").append(x.question(1, 3, 6));
-        int q = 0, questions = x.count(0);
-        while (q < questions && x.put(paper, q) < 0) {
-            q++;
-        }
-        text.append(", put ").append(q).append(" told");
+        int q = x.question(1, 3, 6);
+        text.append("next in ").append(paper).append(": question ").append(q).append(" at ").append(x.put(paper, q));
+        text.append(" told");
         for (int j = 0; j < 8; j++) {
             text.append(' ').append(x.judge(j, paper, q, -1));
         }
@@ -116,6 +113,6 @@ final class State {
         for (int i = 0; i < 12; i++) {
             text.append(' ').append(x.come(pupil, x.at(paper, i)));
         }
-        text.append('\n');
+        text.append(", marked ").append(x.answer(pupil, q, 1)).append(" of ").append(x.total(pupil)).append('\n');
     }
 }
